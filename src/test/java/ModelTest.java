@@ -198,6 +198,5 @@ public final class ModelTest {
         for (String answer : due) {
             check.due("seen " + answer, seen.getOrDefault(answer, 0) >= 20, true);
         }
-        System.out.println(seen);
     }
 }

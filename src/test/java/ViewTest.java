@@ -11,6 +11,7 @@ public final class ViewTest {
         addedCountsNewItemsAlone();
         addedOutside();
         sameComparesInLengthAndItems();
+        sameLooksAtNothingBehindTheLists();
         badSlots();
         badArgComesBeforeNone();
         check.end();
@@ -129,6 +130,20 @@ public final class ViewTest {
         Check.make(x, 2, 4, "d4 a0");
         Check.make(x, 3, 4, "k1 d3");
         check.due("KEPT 0 is not NEW 0", x.same(2, 3), false);
+    }
+
+    private static void sameLooksAtNothingBehindTheLists() {
+        TextDelta x = new TextDelta();
+        Check.make(x, 0, 3, "a1 a2 a3");
+        Check.make(x, 0, 3, "a1 d3");
+        Check.make(x, 1, 3, "a1 d3");
+        check.due("a slot that had a longer list", x.same(0, 1), true);
+        check.due("a slot that had a longer list", x.same(1, 0), true);
+        Check.make(x, 2, 20, Check.adds(20, 4));
+        Check.make(x, 3, 20, Check.adds(20, 4));
+        check.due("full lists", x.same(2, 3), true);
+        Check.make(x, 3, 20, Check.adds(20, 4) + "k19 d1 a5");
+        check.due("full lists that differ at the end", x.same(2, 3), false);
     }
 
     private static void badSlots() {
