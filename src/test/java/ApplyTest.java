@@ -7,8 +7,6 @@ public final class ApplyTest {
         theWayBackLeadsBack();
         slotAndBackMayBeTheSame();
         lettersMoveBothWays();
-        applyAtTheLimits();
-        applyTestsInOrder();
         check.end();
     }
 
@@ -55,31 +53,5 @@ public final class ApplyTest {
         check.due("document", Check.document(x), "987012869");
         check.due("apply(3, 3)", x.apply(3, 3), 10);
         check.due("document", Check.document(x), "0123456789");
-    }
-
-    private static void applyAtTheLimits() {
-        TextDelta x = new TextDelta();
-        Check.make(x, 0, 0, Check.adds(40, 3));
-        check.due("apply(0, 1)", x.apply(0, 1), 40);
-        check.due("document", Check.document(x), "3".repeat(40));
-        check.due("slot 1", Check.delta(x, 1), "40>0 D40 +");
-        check.due("apply(1, 2)", x.apply(1, 2), 0);
-        check.due("length()", x.length(), 0);
-        check.due("slot 2", Check.delta(x, 2), "0>40 A40 +" + "3".repeat(40));
-    }
-
-    private static void applyTestsInOrder() {
-        TextDelta x = new TextDelta();
-        Check.type(x, "12");
-        Check.make(x, 0, 3, "a1");
-        Check.make(x, 1, 1, "a1");
-        String before = Check.state(x);
-        check.due("apply(-1, 0)", x.apply(-1, 0), TextDelta.BAD_ARG);
-        check.due("apply(4, 0)", x.apply(4, 0), TextDelta.BAD_ARG);
-        check.due("apply(0, -1)", x.apply(0, -1), TextDelta.BAD_ARG);
-        check.due("apply(0, 4)", x.apply(0, 4), TextDelta.BAD_ARG);
-        check.due("apply(0, 2)", x.apply(0, 2), TextDelta.BAD_LENGTH);
-        check.due("apply(1, 2)", x.apply(1, 2), TextDelta.BAD_LENGTH);
-        check.due("nothing changed", Check.state(x), before);
     }
 }

@@ -9,9 +9,6 @@ public final class CarryTest {
         bothWaysLeadToTheSameText();
         resultMayGoToASource();
         oneSlotMayBeAllThree();
-        mergedListMayHave40Entries();
-        fullCountsTheMergedListAlone();
-        carryTestsInOrder();
         check.end();
     }
 
@@ -85,43 +82,5 @@ public final class CarryTest {
         check.due("slot 0", Check.delta(x, 0), "4>6 A1 K2 A1 K2 +12");
         check.due("carry(1, 1, 0, 1)", x.carry(1, 1, 0, 1), 6);
         check.due("slot 1", Check.delta(x, 1), "4>6 K1 A1 K2 A1 K1 +12");
-    }
-
-    private static void mergedListMayHave40Entries() {
-        TextDelta x = two("k5 " + Check.adds(15, 1), Check.adds(15, 2), 10);
-        check.due("carry(0, 1, 0, 2)", x.carry(0, 1, 0, 2), 40);
-        check.due("slot 2", Check.delta(x, 2), "25>40 K20 A15 K5 +" + "1".repeat(15));
-        Check.make(x, 0, 10, "k5 " + Check.adds(16, 1));
-        String before = Check.state(x);
-        check.due("carry(0, 1, 0, 2)", x.carry(0, 1, 0, 2), TextDelta.FULL);
-        check.due("carry(1, 0, 1, 2)", x.carry(1, 0, 1, 2), TextDelta.FULL);
-        check.due("nothing changed", Check.state(x), before);
-    }
-
-    private static void fullCountsTheMergedListAlone() {
-        TextDelta x = two(Check.adds(40, 1), Check.adds(40, 2), 0);
-        String before = Check.state(x);
-        check.due("carry(0, 1, 0, 1)", x.carry(0, 1, 0, 1), TextDelta.FULL);
-        check.due("nothing changed", Check.state(x), before);
-        TextDelta y = two("k20 d20", "d20 k20", 40);
-        check.due("nothing kept by both", y.carry(0, 1, 0, 2), 0);
-        check.due("slot 2", Check.delta(y, 2), "20>0 D20 +");
-    }
-
-    private static void carryTestsInOrder() {
-        TextDelta x = two(Check.adds(21, 1), Check.adds(20, 1), 0);
-        Check.make(x, 2, 1, Check.adds(39, 1));
-        String before = Check.state(x);
-        check.due("carry(-1, 1, 0, 2)", x.carry(-1, 1, 0, 2), TextDelta.BAD_ARG);
-        check.due("carry(4, 1, 0, 2)", x.carry(4, 1, 0, 2), TextDelta.BAD_ARG);
-        check.due("carry(0, -1, 0, 2)", x.carry(0, -1, 0, 2), TextDelta.BAD_ARG);
-        check.due("carry(0, 4, 0, 2)", x.carry(0, 4, 0, 2), TextDelta.BAD_ARG);
-        check.due("carry(0, 1, 0, -1)", x.carry(0, 1, 0, -1), TextDelta.BAD_ARG);
-        check.due("carry(0, 1, 0, 4)", x.carry(0, 1, 0, 4), TextDelta.BAD_ARG);
-        check.due("carry(0, 2, 0, 4)", x.carry(0, 2, 0, 4), TextDelta.BAD_ARG);
-        check.due("carry(0, 2, 0, 3)", x.carry(0, 2, 0, 3), TextDelta.BAD_LENGTH);
-        check.due("carry(2, 0, 1, 3)", x.carry(2, 0, 1, 3), TextDelta.BAD_LENGTH);
-        check.due("carry(0, 1, 1, 3)", x.carry(0, 1, 1, 3), TextDelta.FULL);
-        check.due("nothing changed", Check.state(x), before);
     }
 }

@@ -1,6 +1,11 @@
+import java.util.LinkedHashMap;
+import java.util.List;
+import java.util.Map;
+
 /** What the tests share: counting wrong answers, and making and reading deltas. */
 final class Check {
     private static final String KINDS = "?KDA";
+    private static final int MOST = 40;
 
     private int wrong = 0;
 
@@ -71,7 +76,8 @@ final class Check {
 
     static String document(TextDelta x) {
         StringBuilder text = new StringBuilder();
-        for (int i = 0; i < x.length(); i++) {
+        int length = x.length();
+        for (int i = 0; i < length; i++) {
             text.append(x.at(i));
         }
         return text.toString();
@@ -87,10 +93,65 @@ final class Check {
             text.append(' ').append(KINDS.charAt(run & 3)).append(run >> 2);
         }
         text.append(" +");
-        for (int i = 0; x.added(slot, i) != TextDelta.NONE; i++) {
-            text.append(x.added(slot, i));
+        int letter = x.added(slot, 0);
+        for (int i = 1; i <= MOST && letter != TextDelta.NONE; i++) {
+            text.append(letter);
+            letter = x.added(slot, i);
         }
         return text.toString();
+    }
+
+    /**
+     * The work delta, with all that it has not used dropped: "3 6>3 K2 A1 D4 +9"
+     * has used 3 of 6 old places. Looking uses the work delta and slot 3 up.
+     */
+    static String workOf(TextDelta x) {
+        int left = 0;
+        while (left < MOST && x.drop(1) >= 0) {
+            left++;
+        }
+        x.finish(3);
+        return (x.inLength(3) - left) + " " + delta(x, 3);
+    }
+
+    /**
+     * All that an object holds after the calls and then the call, part by part,
+     * each seen on an object of its own.
+     */
+    private static Map<String, String> parts(String calls, String call) {
+        Map<String, String> parts = new LinkedHashMap<>();
+        parts.put("the document", document(after(calls, call)));
+        for (int slot = 0; slot < 4; slot++) {
+            parts.put("slot " + slot, delta(after(calls, call), slot));
+        }
+        parts.put("the work", workOf(after(calls, call)));
+        return parts;
+    }
+
+    private static TextDelta after(String calls, String call) {
+        TextDelta x = Calls.after(calls);
+        if (!call.isEmpty()) {
+            Calls.answer(x, call);
+        }
+        return x;
+    }
+
+    /** After the calls, the call has this answer and changes nothing. */
+    void refused(String calls, String call, int answer) {
+        taken(calls, call, answer);
+    }
+
+    /** After the calls, the call has this answer and changes no other parts than these. */
+    TextDelta taken(String calls, String call, int answer, String... changed) {
+        TextDelta x = Calls.after(calls);
+        due(calls + " " + call, Calls.answer(x, call), answer);
+        Map<String, String> before = parts(calls, "");
+        parts(calls, call).forEach((part, now) -> {
+            if (!List.of(changed).contains(part)) {
+                due(calls + " " + call + ": " + part, now, before.get(part));
+            }
+        });
+        return x;
     }
 
     /** All that can be seen of the object, but for its work delta. */

@@ -4,10 +4,8 @@ public final class JoinTest {
 
     public static void main(String[] args) {
         joinDoesOneAndThenTheOther();
-        joinAtTheLimit();
         resultMayGoToASource();
         oneSlotMayBeAllThree();
-        joinTestsInOrder();
         check.end();
     }
 
@@ -29,17 +27,6 @@ public final class JoinTest {
         check.due("document", Check.document(x), "12985");
     }
 
-    private static void joinAtTheLimit() {
-        TextDelta x = new TextDelta();
-        Check.make(x, 0, 0, Check.adds(20, 1));
-        Check.make(x, 1, 20, Check.adds(20, 2));
-        check.due("join(0, 1, 2)", x.join(0, 1, 2), 40);
-        check.due("slot 2", Check.delta(x, 2), "0>40 A40 +" + "2".repeat(20) + "1".repeat(20));
-        Check.make(x, 3, 40, "d40");
-        check.due("join(2, 3, 2)", x.join(2, 3, 2), 0);
-        check.due("slot 2", Check.delta(x, 2), "0>0 +");
-    }
-
     private static void resultMayGoToASource() {
         TextDelta x = two();
         check.due("join(0, 1, 0)", x.join(0, 1, 0), 5);
@@ -58,21 +45,5 @@ public final class JoinTest {
         Check.make(x, 2, 4, "a5 k1 a6 d2");
         check.due("join(2, 2, 2)", x.join(2, 2, 2), 4);
         check.due("slot 2", Check.delta(x, 2), "4>4 A3 D3 K1 +556");
-    }
-
-    private static void joinTestsInOrder() {
-        TextDelta x = two();
-        String before = Check.state(x);
-        check.due("join(-1, 1, 2)", x.join(-1, 1, 2), TextDelta.BAD_ARG);
-        check.due("join(4, 1, 2)", x.join(4, 1, 2), TextDelta.BAD_ARG);
-        check.due("join(0, -1, 2)", x.join(0, -1, 2), TextDelta.BAD_ARG);
-        check.due("join(0, 4, 2)", x.join(0, 4, 2), TextDelta.BAD_ARG);
-        check.due("join(0, 1, -1)", x.join(0, 1, -1), TextDelta.BAD_ARG);
-        check.due("join(0, 1, 4)", x.join(0, 1, 4), TextDelta.BAD_ARG);
-        check.due("join(0, 0, 4)", x.join(0, 0, 4), TextDelta.BAD_ARG);
-        check.due("join(0, 0, 2)", x.join(0, 0, 2), TextDelta.BAD_LENGTH);
-        check.due("join(0, 2, 1)", x.join(0, 2, 1), TextDelta.BAD_LENGTH);
-        check.due("join(2, 0, 0)", x.join(2, 0, 0), TextDelta.BAD_LENGTH);
-        check.due("nothing changed", Check.state(x), before);
     }
 }

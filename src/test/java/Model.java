@@ -77,6 +77,25 @@ final class Model {
         }
     }
 
+    private static String text(Delta delta) {
+        StringBuilder text = new StringBuilder(delta.in() + ">" + delta.out().size());
+        delta.runs().forEach(run -> text.append(' ').append("?KDA".charAt(run % 4)).append(run / 4));
+        text.append(" +");
+        delta.added().forEach(text::append);
+        return text.toString();
+    }
+
+    /** The document, the slots and the work, as Check's state and workOf tell them. */
+    String whole() {
+        StringBuilder text = new StringBuilder("\"");
+        document.forEach(text::append);
+        text.append('"');
+        for (Delta delta : slots) {
+            text.append(" [").append(text(delta)).append(']');
+        }
+        return text + " " + used + " " + text(new Delta(workIn, work));
+    }
+
     private static boolean bad(int slot) {
         return slot < 0 || slot > 3;
     }
@@ -228,5 +247,30 @@ final class Model {
 
     boolean same(int a, int b) {
         return !bad(a) && !bad(b) && slots[a].equals(slots[b]);
+    }
+
+    /** A boolean counts 1 or 0, and a call without an answer 0. */
+    int answer(String name, int[] v) {
+        switch (name) {
+            case "begin": return begin(v[0]);
+            case "keep": return keep(v[0]);
+            case "drop": return drop(v[0]);
+            case "add": return add(v[0]);
+            case "finish": return finish(v[0]);
+            case "join": return join(v[0], v[1], v[2]);
+            case "carry": return carry(v[0], v[1], v[2], v[3]);
+            case "apply": return apply(v[0], v[1]);
+            case "type": return type(v[0]);
+            case "clear": clear(); return 0;
+            case "length": return length();
+            case "at": return at(v[0]);
+            case "inLength": return inLength(v[0]);
+            case "outLength": return outLength(v[0]);
+            case "runs": return runs(v[0]);
+            case "run": return run(v[0], v[1]);
+            case "added": return added(v[0], v[1]);
+            case "same": return same(v[0], v[1]) ? 1 : 0;
+            default: throw new IllegalArgumentException("no such call: " + name);
+        }
     }
 }

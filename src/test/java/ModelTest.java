@@ -127,63 +127,13 @@ public final class ModelTest {
     private boolean oneCall(int number) {
         String name = name();
         int[] v = arguments(name);
-        StringBuilder call = new StringBuilder(name + "(");
-        for (int i = 0; i < v.length; i++) {
-            call.append(i == 0 ? "" : ", ").append(v[i]);
-        }
-        call.append(')');
+        String call = Calls.text(name, v);
         story.append(' ').append(call);
-        int want = ofModel(name, v);
-        int got = ofProgram(name, v);
+        int want = y.answer(name, v);
+        int got = Calls.answer(x, name, v);
         seen.merge(name + (want < 0 ? want : "+"), 1, Integer::sum);
         check.due("object " + number + ": " + call, got, want);
         return got == want;
-    }
-
-    private int ofProgram(String name, int[] v) {
-        switch (name) {
-            case "begin": return x.begin(v[0]);
-            case "keep": return x.keep(v[0]);
-            case "drop": return x.drop(v[0]);
-            case "add": return x.add(v[0]);
-            case "finish": return x.finish(v[0]);
-            case "join": return x.join(v[0], v[1], v[2]);
-            case "carry": return x.carry(v[0], v[1], v[2], v[3]);
-            case "apply": return x.apply(v[0], v[1]);
-            case "type": return x.type(v[0]);
-            case "clear": x.clear(); return 0;
-            case "length": return x.length();
-            case "at": return x.at(v[0]);
-            case "inLength": return x.inLength(v[0]);
-            case "outLength": return x.outLength(v[0]);
-            case "runs": return x.runs(v[0]);
-            case "run": return x.run(v[0], v[1]);
-            case "added": return x.added(v[0], v[1]);
-            default: return x.same(v[0], v[1]) ? 1 : 0;
-        }
-    }
-
-    private int ofModel(String name, int[] v) {
-        switch (name) {
-            case "begin": return y.begin(v[0]);
-            case "keep": return y.keep(v[0]);
-            case "drop": return y.drop(v[0]);
-            case "add": return y.add(v[0]);
-            case "finish": return y.finish(v[0]);
-            case "join": return y.join(v[0], v[1], v[2]);
-            case "carry": return y.carry(v[0], v[1], v[2], v[3]);
-            case "apply": return y.apply(v[0], v[1]);
-            case "type": return y.type(v[0]);
-            case "clear": y.clear(); return 0;
-            case "length": return y.length();
-            case "at": return y.at(v[0]);
-            case "inLength": return y.inLength(v[0]);
-            case "outLength": return y.outLength(v[0]);
-            case "runs": return y.runs(v[0]);
-            case "run": return y.run(v[0], v[1]);
-            case "added": return y.added(v[0], v[1]);
-            default: return y.same(v[0], v[1]) ? 1 : 0;
-        }
     }
 
     /** A mix of calls that never comes to an answer would test nothing of it. */

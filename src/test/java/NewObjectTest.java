@@ -4,6 +4,7 @@ public final class NewObjectTest {
 
     public static void main(String[] args) {
         documentAndSlotsAreEmpty();
+        nothingIsThereToBeSeen();
         workDeltaIsEmpty();
         objectsAreApart();
         check.end();
@@ -12,19 +13,28 @@ public final class NewObjectTest {
     private static void documentAndSlotsAreEmpty() {
         TextDelta x = new TextDelta();
         check.due("state", Check.state(x), "\"\" [0>0 +] [0>0 +] [0>0 +] [0>0 +]");
-        check.due("at(0)", x.at(0), TextDelta.NONE);
-        check.due("same(0, 3)", x.same(0, 3), true);
-        check.due("apply(0, 1)", x.apply(0, 1), 0);
+    }
+
+    private static void nothingIsThereToBeSeen() {
+        check.refused("", "at(0)", TextDelta.NONE);
+        for (int slot = 0; slot < 4; slot++) {
+            check.taken("", Calls.text("inLength", slot), 0);
+            check.taken("", Calls.text("outLength", slot), 0);
+            check.taken("", Calls.text("runs", slot), 0);
+            check.refused("", Calls.text("run", slot, 0), TextDelta.NONE);
+            check.refused("", Calls.text("added", slot, 0), TextDelta.NONE);
+            check.taken("", Calls.text("same", 0, slot), 1);
+            check.taken("", Calls.text("apply", slot, 3 - slot), 0);
+        }
     }
 
     private static void workDeltaIsEmpty() {
-        TextDelta x = new TextDelta();
-        check.due("keep(1)", x.keep(1), TextDelta.BAD_LENGTH);
-        check.due("drop(1)", x.drop(1), TextDelta.BAD_LENGTH);
-        check.due("finish(2)", x.finish(2), 0);
-        check.due("inLength(2)", x.inLength(2), 0);
-        check.due("add(4)", x.add(4), 1);
-        check.due("finish(2)", x.finish(2), 1);
+        check.due("the work", Check.workOf(new TextDelta()), "0 0>0 +");
+        check.refused("", "keep(1)", TextDelta.BAD_LENGTH);
+        check.refused("", "drop(1)", TextDelta.BAD_LENGTH);
+        TextDelta x = check.taken("", "finish(2)", 0, "slot 2");
+        check.due("slot 2", Check.delta(x, 2), "0>0 +");
+        x = check.taken("add(4)", "finish(2)", 1, "slot 2");
         check.due("slot 2", Check.delta(x, 2), "0>1 A1 +4");
     }
 

@@ -6,14 +6,8 @@ public final class ViewTest {
         lengths();
         runsOfThePrintedForm();
         addsComeBeforeTheDropsThatFollowAKeep();
-        runsAtTheLimits();
-        runOutside();
         addedCountsNewItemsAlone();
-        addedOutside();
         sameComparesInLengthAndItems();
-        sameLooksAtNothingBehindTheLists();
-        badSlots();
-        badArgComesBeforeNone();
         check.end();
     }
 
@@ -53,35 +47,6 @@ public final class ViewTest {
         check.due("slot 2", Check.delta(x, 2), "3>3 A1 D1 K2 +5");
     }
 
-    private static void runsAtTheLimits() {
-        TextDelta x = new TextDelta();
-        Check.make(x, 0, 40, "d40 " + Check.adds(40, 1));
-        check.due("runs(0)", x.runs(0), 2);
-        check.due("run(0, 0)", x.run(0, 0), TextDelta.ADD + 160);
-        check.due("run(0, 1)", x.run(0, 1), TextDelta.DROP + 160);
-        Check.make(x, 1, 20, "k1 a1 ".repeat(20));
-        check.due("runs(1)", x.runs(1), 40);
-        Check.make(x, 2, 40, "k1 a1 d1 ".repeat(13));
-        check.due("runs(2)", x.runs(2), 40);
-        check.due("run(2, 38)", x.run(2, 38), TextDelta.DROP + 4);
-        check.due("run(2, 39)", x.run(2, 39), TextDelta.KEEP + 56);
-        Check.make(x, 3, 40, "k1 a1 d1 ".repeat(20));
-        check.due("runs(3)", x.runs(3), 60);
-        check.due("run(3, 59)", x.run(3, 59), TextDelta.DROP + 4);
-    }
-
-    private static void runOutside() {
-        TextDelta x = new TextDelta();
-        Check.make(x, 0, 2, "k1 a1");
-        check.due("run(0, -1)", x.run(0, -1), TextDelta.NONE);
-        check.due("run(0, 2)", x.run(0, 2), TextDelta.KEEP + 4);
-        check.due("run(0, 3)", x.run(0, 3), TextDelta.NONE);
-        check.due("run(0, 80)", x.run(0, 80), TextDelta.NONE);
-        check.due("run(0, least)", x.run(0, Integer.MIN_VALUE), TextDelta.NONE);
-        check.due("run(0, greatest)", x.run(0, Integer.MAX_VALUE), TextDelta.NONE);
-        check.due("run(1, 0)", x.run(1, 0), TextDelta.NONE);
-    }
-
     private static void addedCountsNewItemsAlone() {
         TextDelta x = new TextDelta();
         Check.make(x, 2, 6, "k2 a0 k1 a9 a4 d1 a3");
@@ -90,20 +55,6 @@ public final class ViewTest {
         check.due("added(2, 2)", x.added(2, 2), 4);
         check.due("added(2, 3)", x.added(2, 3), 3);
         check.due("added(2, 4)", x.added(2, 4), TextDelta.NONE);
-    }
-
-    private static void addedOutside() {
-        TextDelta x = new TextDelta();
-        Check.make(x, 0, 40, "");
-        check.due("added(0, 0)", x.added(0, 0), TextDelta.NONE);
-        Check.make(x, 0, 0, Check.adds(39, 1) + "a2");
-        check.due("added(0, 39)", x.added(0, 39), 2);
-        check.due("added(0, 40)", x.added(0, 40), TextDelta.NONE);
-        check.due("added(0, -1)", x.added(0, -1), TextDelta.NONE);
-        check.due("added(0, least)", x.added(0, Integer.MIN_VALUE), TextDelta.NONE);
-        check.due("added(0, greatest)", x.added(0, Integer.MAX_VALUE), TextDelta.NONE);
-        Check.make(x, 0, 0, "a3");
-        check.due("a shorter delta hides the longer one", x.added(0, 1), TextDelta.NONE);
     }
 
     private static void sameComparesInLengthAndItems() {
@@ -130,41 +81,5 @@ public final class ViewTest {
         Check.make(x, 2, 4, "d4 a0");
         Check.make(x, 3, 4, "k1 d3");
         check.due("KEPT 0 is not NEW 0", x.same(2, 3), false);
-    }
-
-    private static void sameLooksAtNothingBehindTheLists() {
-        TextDelta x = new TextDelta();
-        Check.make(x, 0, 3, "a1 a2 a3");
-        Check.make(x, 0, 3, "a1 d3");
-        Check.make(x, 1, 3, "a1 d3");
-        check.due("a slot that had a longer list", x.same(0, 1), true);
-        check.due("a slot that had a longer list", x.same(1, 0), true);
-        Check.make(x, 2, 20, Check.adds(20, 4));
-        Check.make(x, 3, 20, Check.adds(20, 4));
-        check.due("full lists", x.same(2, 3), true);
-        Check.make(x, 3, 20, Check.adds(20, 4) + "k19 d1 a5");
-        check.due("full lists that differ at the end", x.same(2, 3), false);
-    }
-
-    private static void badSlots() {
-        TextDelta x = new TextDelta();
-        for (int slot : new int[] {-1, 4, Integer.MIN_VALUE, Integer.MAX_VALUE}) {
-            check.due("inLength(" + slot + ")", x.inLength(slot), TextDelta.BAD_ARG);
-            check.due("outLength(" + slot + ")", x.outLength(slot), TextDelta.BAD_ARG);
-            check.due("runs(" + slot + ")", x.runs(slot), TextDelta.BAD_ARG);
-            check.due("same(" + slot + ", 0)", x.same(slot, 0), false);
-            check.due("same(0, " + slot + ")", x.same(0, slot), false);
-            check.due("same(" + slot + ", " + slot + ")", x.same(slot, slot), false);
-        }
-    }
-
-    private static void badArgComesBeforeNone() {
-        TextDelta x = new TextDelta();
-        for (int slot : new int[] {-1, 4, Integer.MIN_VALUE, Integer.MAX_VALUE}) {
-            for (int i : new int[] {-1, 0, 80, Integer.MAX_VALUE}) {
-                check.due("run(" + slot + ", " + i + ")", x.run(slot, i), TextDelta.BAD_ARG);
-                check.due("added(" + slot + ", " + i + ")", x.added(slot, i), TextDelta.BAD_ARG);
-            }
-        }
     }
 }
