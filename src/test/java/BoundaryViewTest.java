@@ -301,13 +301,17 @@ public final class BoundaryViewTest {
         check.taken("add(1)*40 finish(0) begin(0) add(1)*39 finish(1)", "same(0, 1)", 0);
         check.taken("add(1)*40 finish(0) begin(0) add(1)*39 finish(1)", "same(1, 0)", 0);
         check.taken("add(1)*40 finish(0) begin(0) add(1)*39 add(2) finish(1)", "same(0, 1)", 0);
+        check.taken("add(1)*40 finish(0) begin(0) add(1)*39 add(2) finish(1)", "same(1, 0)", 0);
         check.taken("add(1)*40 finish(0) begin(0) add(2) add(1)*39 finish(1)", "same(0, 1)", 0);
+        check.taken("add(1)*40 finish(0) begin(0) add(2) add(1)*39 finish(1)", "same(1, 0)", 0);
     }
 
     private static void sameLooksAtNothingBehindTheLists() {
         check.taken("add(1)*40 finish(0) begin(0) add(1) finish(0) finish(1)", "same(0, 1)", 1);
         check.taken("add(1)*40 finish(0) begin(0) add(1) finish(0) finish(1)", "same(1, 0)", 1);
         check.taken("add(1)*40 finish(0) begin(0) finish(0)", "same(0, 1)", 1);
+        check.taken("add(1)*40 finish(0) finish(1) begin(0) add(1)*39 finish(1)", "same(0, 1)", 0);
+        check.taken("add(1)*40 finish(0) finish(1) begin(0) add(1)*39 finish(1)", "same(1, 0)", 0);
     }
 
     private static void aKeptPlaceIsNoLetter() {
