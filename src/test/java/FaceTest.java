@@ -4,7 +4,9 @@ import java.lang.reflect.Method;
 import java.lang.reflect.Modifier;
 import java.nio.file.Files;
 import java.nio.file.Path;
+import java.util.Map;
 import java.util.Set;
+import java.util.TreeMap;
 import java.util.TreeSet;
 import java.util.regex.Matcher;
 import java.util.regex.Pattern;
@@ -19,6 +21,7 @@ public final class FaceTest {
         theMembersThatOthersSee();
         privateMembers();
         theSource();
+        theMethods();
         check.end();
     }
 
@@ -96,9 +99,13 @@ public final class FaceTest {
         check.due("fields up to 40", fields <= 40, true);
     }
 
-    private static void theSource() throws Exception {
+    private static String code() throws Exception {
         String source = Files.readString(Path.of("src/main/java/TextDelta.java"));
-        String code = source.replaceAll("(?s)/\\*.*?\\*/", " ").replaceAll("//[^\n]*", " ");
+        return source.replaceAll("(?s)/\\*.*?\\*/", " ").replaceAll("//[^\n]*", " ");
+    }
+
+    private static void theSource() throws Exception {
+        String code = code();
         String[] ruledOut = {
             "import", "package", "String", "Math", "Integer", "System", "Arrays", "Object", "float", "double",
             "null", "throw", "throws", "try", "catch", "synchronized", "assert", "instanceof", "enum", "record",
@@ -108,6 +115,7 @@ public final class FaceTest {
         }
         check.due("a lambda or a method reference", found(code, "->|::"), false);
         check.due("a text", found(code, "\""), false);
+        check.due("a division", found(code, "[/%]"), false);
         check.due("an array of arrays", found(code, "\\]\\s*\\["), false);
         Matcher made = Pattern.compile("(?m)^.*\\bnew\\b.*$").matcher(code);
         while (made.find()) {
@@ -137,5 +145,31 @@ public final class FaceTest {
             }
         }
         return "";
+    }
+
+    private static void theMethods() throws Exception {
+        Map<String, String> bodies = new TreeMap<>();
+        Matcher method = Pattern.compile("(?ms)^ {4}(?:public|private) [^=;]*?(\\w+)\\([^)]*\\) \\{\n(.*?)^ {4}\\}$")
+            .matcher(code());
+        while (method.find()) {
+            bodies.put(method.group(1), method.group(2));
+        }
+        check.due("methods", bodies.size(), TextDelta.class.getDeclaredMethods().length + 1);
+        for (Map.Entry<String, String> body : bodies.entrySet()) {
+            check.due(body.getKey() + " is short", body.getValue().split("\n").length <= 60, true);
+            check.due(body.getKey() + " goes at most six deep", depth(bodies, body.getKey(), 1) <= 6, true);
+        }
+    }
+
+    /** How many methods deep the calls go from this one, which is endless for a recursion. */
+    private static int depth(Map<String, String> bodies, String name, int soFar) {
+        int deepest = soFar;
+        Matcher call = Pattern.compile("\\b(\\w+)\\(").matcher(bodies.get(name));
+        while (soFar <= 6 && call.find()) {
+            if (bodies.containsKey(call.group(1))) {
+                deepest = Math.max(deepest, depth(bodies, call.group(1), soFar + 1));
+            }
+        }
+        return deepest;
     }
 }
